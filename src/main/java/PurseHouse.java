@@ -262,6 +262,7 @@ public final class PurseHouse {
         return (marks >> n & 1) == 1;
     }
 
+    /** No rate has a 0 below; it is looked at here so that no call can ever fail by itself. */
     private static long floorOf(long a, long b) {
         return b == 0 ? 0 : Math.floorDiv(a, b);
     }

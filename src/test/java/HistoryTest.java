@@ -1,5 +1,5 @@
 /**
- * Long made-up runs of 512 calls, each answer against that of History, and then the sums of every
+ * Long made-up runs of at most 512 calls, each answer against that of History, and then the sums of every
  * finished snapshot. The runs are the same each time: the numbers come from a fixed start.
  */
 final class HistoryTest {

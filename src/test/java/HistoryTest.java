@@ -1,6 +1,6 @@
 /**
- * Long made-up runs of at most 512 calls, each answer against that of History, and then the sums of every
- * finished snapshot. The runs are the same each time: the numbers come from a fixed start.
+ * Long made-up runs of at most 512 calls, each answer against that of History, and then the sums
+ * of finished snapshots. The runs are the same each time: the numbers come from a fixed start.
  */
 final class HistoryTest {
     private static final int RUNS = 1500;

@@ -466,7 +466,7 @@ public final class PurseHouse {
         }
     }
 
-    /** A bag, an empty bag or a marker; the figure is the amount of a bag, the number of a marker. */
+    /** The figure is the amount of a bag, the number of a marker, 0 of an empty bag. */
     private static final class Thing {
         final int kind;
         final int currency;

@@ -96,6 +96,7 @@ final class Scene {
         looks.add(this::ratesNow);
         looks.add(this::nextLink);
         looks.add(this::nextNumber);
+        looks.add(this::nextPages);
         looks.add(this::afterAllIsTaken);
         for (int link = 0; link <= links; link++) {
             int l = link;
@@ -147,6 +148,16 @@ final class Scene {
         add(seen, "and then", h.snap(kiosks - 1));
         for (int l = 0; l < links; l++) {
             add(seen, "onLink", h.onLink(l));
+        }
+    }
+
+    /** What was minted at a kiosk shows only in what it records. */
+    private void nextPages(PurseHouse h, StringBuilder seen) {
+        for (int k = 0; k < kiosks; k++) {
+            int n = h.snap(k);
+            for (int c = 0; c < 3; c++) {
+                add(seen, "minted next", h.minted(n, c));
+            }
         }
     }
 

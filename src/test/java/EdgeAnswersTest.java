@@ -388,6 +388,10 @@ final class EdgeAnswersTest {
         t.due("not what comes after", h.minted(0, 0), 2999999965L);
         h.snap(1);
         t.due("the other alone", h.minted(1, 0), 465);
+        PurseHouse six = Houses.full();
+        for (int n = 0; n < 16; n++) {
+            t.due("the starter of " + n + " alone", six.minted(n, 0), 100 + n % 6);
+        }
         PurseHouse less = Houses.richPair();
         less.bag(0, 2, 100);
         less.deliver(0, 0);

@@ -60,6 +60,8 @@ final class EdgeTermsTest {
         roadOfAnOrderedLinkEndsAtTheMarker();
         roadOfALooseLinkLeavesOutTheMarked();
         roadIsOfEachNumberByItself();
+        roadOfMoreBagsThanALinkHolds(0);
+        roadOfMoreBagsThanALinkHolds(1);
     }
 
     private void doneAndFinished() {
@@ -581,6 +583,21 @@ final class EdgeTermsTest {
         ordered.deliver(0, 0);
         t.due("behind the marker of another number", ordered.road(0, 0, 0), 5);
         t.due("behind its own", ordered.road(1, 0, 0), 0);
+    }
+
+    /** The 16 are those on a link at once: a road has all that were taken since the recording. */
+    private void roadOfMoreBagsThanALinkHolds(int link) {
+        PurseHouse h = Houses.richPair();
+        h.snap(1);
+        for (int round = 1; round <= 3; round++) {
+            for (int i = 0; i < 16; i++) {
+                h.bag(link, 0, 1);
+            }
+            for (int i = 0; i < 16; i++) {
+                h.deliver(link, 0);
+            }
+            t.due("road after round " + round, h.road(0, link, 0), 16 * round);
+        }
     }
 
     /** An ordered link waits for its marker, and bags behind it do not matter. */

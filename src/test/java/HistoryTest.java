@@ -7,7 +7,7 @@ final class HistoryTest {
     private static final int CALLS = 512;
 
     private final Checks t = new Checks();
-    private long seed = 20261115;
+    private final Dice dice = new Dice(20261115);
     private int finishedSeen = 0;
     private int roadsSeen = 0;
 
@@ -34,14 +34,14 @@ final class HistoryTest {
     }
 
     private void run(int run) {
-        int asked = pick(12) == 0 ? pick(20) - 6 : 1 + pick(6);
+        int asked = dice.pick(12) == 0 ? dice.pick(20) - 6 : 1 + dice.pick(6);
         kiosks = Math.max(1, Math.min(6, asked));
         house = new PurseHouse(asked);
         history = new History(asked);
         links = 0;
         snaps = 0;
-        deliverShare = 15 + pick(40);
-        snapShare = 1 + pick(4);
+        deliverShare = 15 + dice.pick(40);
+        snapShare = 1 + dice.pick(4);
         int calls = 0;
         calls += openLinks(run);
         calls += firstCoins(run);
@@ -58,12 +58,12 @@ final class HistoryTest {
     /** A ring, so that most snapshots can finish, and some more links. */
     private int openLinks(int run) {
         int tries = 0;
-        boolean ring = pick(5) > 0;
+        boolean ring = dice.pick(5) > 0;
         for (int k = 0; ring && k < kiosks; k++) {
             openLink(run, k, (k + 1) % kiosks);
             tries++;
         }
-        int more = pick(8);
+        int more = dice.pick(8);
         for (int i = 0; i < more; i++) {
             openLink(run, wild(kiosks), wild(kiosks));
             tries++;
@@ -72,7 +72,7 @@ final class HistoryTest {
     }
 
     private void openLink(int run, int from, int to) {
-        boolean ordered = pick(2) == 0;
+        boolean ordered = dice.pick(2) == 0;
         int want = history.link(from, to, ordered);
         same(run, "link", house.link(from, to, ordered), want);
         links += want >= 0 ? 1 : 0;
@@ -86,10 +86,10 @@ final class HistoryTest {
     }
 
     private void oneCall(int run) {
-        int what = pick(100);
+        int what = dice.pick(100);
         if (what < deliverShare) {
             int link = wild(links);
-            int i = pick(4) == 0 ? wild(6) : 0;
+            int i = dice.pick(4) == 0 ? wild(6) : 0;
             same(run, "deliver", bit(house.deliver(link, i)), bit(history.deliver(link, i)));
         } else if (what < 75) {
             change(run);
@@ -99,7 +99,7 @@ final class HistoryTest {
     }
 
     private void change(int run) {
-        int what = pick(20);
+        int what = dice.pick(20);
         int kiosk = wild(kiosks);
         int c = wild(3);
         int d = wild(3);
@@ -118,12 +118,12 @@ final class HistoryTest {
             same(run, "exchange", bit(house.exchange(kiosk, c, d, amount)),
                     bit(history.exchange(kiosk, c, d, amount)));
         } else if (what < 9) {
-            int a = pick(3) == 0 ? wild(1000001) : 1 + pick(9);
-            int b = pick(3) == 0 ? wild(1000001) : 1 + pick(9);
+            int a = dice.pick(3) == 0 ? wild(1000001) : 1 + dice.pick(9);
+            int b = dice.pick(3) == 0 ? wild(1000001) : 1 + dice.pick(9);
             same(run, "rate", bit(house.rate(c, d, a, b)), bit(history.rate(c, d, a, b)));
         } else {
             int link = wild(links);
-            int coin = pick(2) == 0 ? 0 : c;
+            int coin = dice.pick(2) == 0 ? 0 : c;
             same(run, "bag", bit(house.bag(link, coin, amount)),
                     bit(history.bag(link, coin, amount)));
         }
@@ -136,7 +136,7 @@ final class HistoryTest {
         int c = wild(3);
         PurseHouse h = house;
         History y = history;
-        switch (pick(13)) {
+        switch (dice.pick(13)) {
             case 0:
                 same(run, "stock", h.stock(kiosk, c), y.stock(kiosk, c));
                 break;
@@ -188,7 +188,7 @@ final class HistoryTest {
     /** Coins come and go by the mint alone, so a state that could have held has just those. */
     private void checkSums(int run) {
         int n = wild(snaps);
-        int c = pick(3);
+        int c = dice.pick(3);
         checkRoad(run, n, wild(links), c);
         boolean finished = house.finished(n);
         same(run, "finished", bit(finished), bit(history.finished(n)));
@@ -217,23 +217,18 @@ final class HistoryTest {
     }
 
     private int amount() {
-        int kind = pick(12);
-        return kind == 0 ? 1000000000 + pick(3) - 1 : kind == 1 ? pick(3) - 1
-                : kind < 4 ? 1 + pick(100000) : 1 + pick(50);
+        int kind = dice.pick(12);
+        return kind == 0 ? 1000000000 + dice.pick(3) - 1 : kind == 1 ? dice.pick(3) - 1
+                : kind < 4 ? 1 + dice.pick(100000) : 1 + dice.pick(50);
     }
 
     /** Mostly one of 0 .. end - 1, now and then one beside these. */
     private int wild(int end) {
-        int kind = pick(30);
+        int kind = dice.pick(30);
         if (kind == 0) {
             int[] far = {-1, end, end + 1, Integer.MIN_VALUE, Integer.MAX_VALUE, 32, 16};
-            return far[pick(far.length)];
+            return far[dice.pick(far.length)];
         }
-        return end > 0 ? pick(end) : 0;
-    }
-
-    private int pick(int end) {
-        seed = seed * 6364136223846793005L + 1442695040888963407L;
-        return (int) Math.floorMod(seed >>> 33, (long) end);
+        return end > 0 ? dice.pick(end) : 0;
     }
 }
